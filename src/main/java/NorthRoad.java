@@ -476,9 +476,10 @@ public final class NorthRoad {
         if (!hasRoad()) {
             return NO_SUCH;
         }
+        Sets s = brought();
         int found = 0;
         for (int rider = 0; rider < now.riders; rider++) {
-            if (lostWithout(1 << rider) > 0) {
+            if (lostWithout(s, 1 << rider) > 0) {
                 found |= 1 << rider;
             }
         }
@@ -489,10 +490,11 @@ public final class NorthRoad {
         if (!hasRoad()) {
             return NO_SUCH;
         }
+        Sets s = brought();
         for (int lesser = 0; lesser < now.riders; lesser++) {
             for (int other = lesser + 1; other < now.riders; other++) {
-                boolean both = lostWithout(1 << lesser | 1 << other) > 0;
-                if (both && lostWithout(1 << lesser) <= 0 && lostWithout(1 << other) <= 0) {
+                boolean both = lostWithout(s, 1 << lesser | 1 << other) > 0;
+                if (both && lostWithout(s, 1 << lesser) <= 0 && lostWithout(s, 1 << other) <= 0) {
                     return 10 * lesser + other;
                 }
             }
@@ -504,7 +506,7 @@ public final class NorthRoad {
         if (!isRider(rider)) {
             return NO_SUCH_VALUE;
         }
-        return lostWithout(1 << rider);
+        return lostWithout(brought(), 1 << rider);
     }
 
     public int stand(int rider) {
@@ -584,14 +586,15 @@ public final class NorthRoad {
         if (refused != 0) {
             return refused;
         }
+        Sets s = brought();
         int all = allOf(now.riders);
-        boolean whole = comparedGift(slots[slot], all, brought().loads[all]) == 0;
-        return whole && firstLeaving(slots[slot]) == NONE ? 1 : 0;
+        boolean whole = comparedGift(slots[slot], all, s.loads[all]) == 0;
+        return whole && firstLeaving(slots[slot], s) == NONE ? 1 : 0;
     }
 
     public int leave(int slot) {
         int refused = refusedShares(slot);
-        return refused != 0 ? refused : firstLeaving(slots[slot]);
+        return refused != 0 ? refused : firstLeaving(slots[slot], brought());
     }
 
     // ---- where one's home is, by which LAW, by what was seen ----
@@ -1051,8 +1054,7 @@ public final class NorthRoad {
         return NONE;
     }
 
-    private int lostWithout(int set) {
-        Sets s = brought();
+    private int lostWithout(Sets s, int set) {
         int all = allOf(now.riders);
         return s.loads[all] - s.loads[all & ~set];
     }
@@ -1080,8 +1082,7 @@ public final class NorthRoad {
         return slots[slot].size == now.riders ? 0 : NO_SUCH;
     }
 
-    private int firstLeaving(Slot gifts) {
-        Sets s = brought();
+    private int firstLeaving(Slot gifts, Sets s) {
         for (int set = 1; set < 1 << now.riders; set++) {
             if (comparedGift(gifts, set, s.loads[set]) < 0) {
                 return set;
@@ -1503,18 +1504,14 @@ public final class NorthRoad {
                     next++;
                 }
             } else if (isDigit(bytes[next])) {
-                readNumber();
+                kind = NUMBER;
+                value = 0;
+                while (next < size && isDigit(bytes[next])) {
+                    value = Math.min(BEYOND, 10 * value + bytes[next] - '0');
+                    next++;
+                }
             } else {
                 kind = bytes[next] == ';' ? CLOSE : STRANGE;
-                next++;
-            }
-        }
-
-        private void readNumber() {
-            kind = NUMBER;
-            value = 0;
-            while (next < size && isDigit(bytes[next])) {
-                value = Math.min(BEYOND, 10 * value + bytes[next] - '0');
                 next++;
             }
         }

@@ -52,6 +52,8 @@ public final class FuzzTest {
         fillSeen();
       } else if (kind < 8) {
         fillShares();
+      } else if (kind == 8) {
+        burst();
       } else {
         Method m = FACE.get(random.nextInt(FACE.size()));
         boolean tape = List.of("feed", "end", "road").contains(m.getName());
@@ -141,10 +143,31 @@ public final class FuzzTest {
     if (name.equals("write")) {
       a[2] = random.nextInt(3) == 0 ? random.nextLong() : random.nextInt(400) - 100;
     }
+    if (name.equals("paste")) {
+      for (int i = 0; i < 5; i++) {
+        a[i] = random.nextInt(20) == 0 ? wild() : random.nextInt(i == 4 ? 7 : 4);
+      }
+    }
     if (name.equals("row")) {
       a[2] = random.nextInt(64) - 2;
     }
     return a;
+  }
+
+  /** Acts one behind the other, now and then beyond their limit. */
+  private static void burst() throws Exception {
+    int many = random.nextInt(5) == 0 ? 45 : random.nextInt(8);
+    for (int k = 0; k < many; k++) {
+      int rider = random.nextInt(Math.max(1, x.count(5)));
+      if (random.nextBoolean()) {
+        ask("tell", rider, random.nextInt(13));
+      } else {
+        ask("bar", random.nextInt(Math.max(1, x.count(4))), rider, random.nextInt(4) == 0 ? 0 : 1);
+      }
+      if (random.nextInt(6) == 0) {
+        ask("undo");
+      }
+    }
   }
 
   private static long wild() {
