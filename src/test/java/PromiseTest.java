@@ -47,6 +47,7 @@ public final class PromiseTest {
     ridersBySteps();
     wholeSteps();
     laws();
+    changes();
     rows();
     sets();
     tellings();
@@ -72,6 +73,12 @@ public final class PromiseTest {
     C.due("1 NONE", NorthRoad.NONE, -1);
     C.due("5 fault(0) ahead of any", x.fault(0), 0);
     C.due("5 fault(1) ahead of any", x.fault(1), -1);
+    int[] without = {x.done(0), x.loads(0), x.homes(0), x.halt(), x.halted(), x.crowd(0), x.empty(0), x.idle(0),
+      x.lead(0), x.best(), x.ways(), x.cover(), x.needed(), x.pair(), x.fair(0), x.leave(0), x.laws(0), x.by(0), x.law(),
+      x.mean(0), x.undo(), x.drawn(0, 0), x.waiting(0, 0), x.plan(0), x.house(0, 0), x.luck(0, 1, 0), x.rate(0, 0)};
+    for (int k = 0; k < without.length; k++) {
+      C.due("1 no ROAD, call " + k, without[k], -2);
+    }
     C.due("42 worth without a ROAD", x.worth(0), -1000);
     C.due("59 gets without a ROAD", x.gets(0, 1, 0, 0), -1000);
   }
@@ -101,7 +108,9 @@ public final class PromiseTest {
     C.due("2 seats", x.count(2), 4);
     C.due("2 odds", x.count(3), 10);
     C.due("4 road of an empty TAPE", x.road(), 0);
-    C.due("4 there is none then", x.count(0), 0);
+    for (int what = 0; what < 8; what++) {
+      C.due("4 there is none then, count(" + what + ")", x.count(what), 0);
+    }
     C.due("4 no ROAD", x.best(), -2);
     Check.put(x, NORTH);
     C.due("3 end cuts LINES", x.end(35), 35);
@@ -141,6 +150,12 @@ public final class PromiseTest {
     text("road\tplaces 5", 1, 4);
     text("road 5", 1, 5);
     text("roadplaces 5", 1, 0);
+    text("roadz places 5", 1, 0);
+    text("roada places 5", 1, 0);
+    text("road`", 1, 4);
+    text("road{", 1, 4);
+    text("road places 5/", 1, 13);
+    text("road places 5:", 1, 13);
     text("road places law", 1, 12);
     text("road places ;", 1, 12);
     text("road law 1", 1, 5);
@@ -264,6 +279,8 @@ public final class PromiseTest {
     C.due("11 arrives late", y.arrives(1), 4);
     NorthRoad z = Check.of(HALF);
     C.due("31 further without the other", z.further(0, 1), 1);
+    C.due("14 nobody", Check.of(EMPTY).fullest(0), 0);
+    C.due("29 at all STEPS", Check.of(EMPTY).alone(1), 25);
     C.due("9 both aboard", z.aboard(0, 1), 3);
   }
 
@@ -356,6 +373,9 @@ public final class PromiseTest {
     C.due("25 none halts", y.halt(), -1);
     C.due("26 none halted", y.halted(), -1);
     C.due("27 the least of several", Check.of(BASE + "rider at 3 says 0 home 0;rider at 1 says 0 home 0;").crowd(9), 1);
+    C.due("27 at PLACE 0", Check.of(BASE + "rider at 3 says 0 home 9;rider at 0 says 0 home 9;").crowd(9), 0);
+    C.due("21 RIDER 0", Check.of(BASE + "rider at 3 says 0 home 9;").waiting(3, 24), 1);
+    C.due("34 at PLACE 0", Check.of(BASE + "car from 0 to 1 load 1;").lead(0), 0);
     C.due("27 none waits", Check.of(BASE + "rider at 3 says 0 home 3;").crowd(0), -1);
     y.tell(0, 3);
     C.due("33 all arrived", y.ends(), 4);
@@ -387,6 +407,36 @@ public final class PromiseTest {
     NorthRoad z = Check.of("road places 5 law 0 seats 1 odds 0;car from 0 to 3 load 8;rider at 0 says 1 home 3;");
     C.due("II LAW 0: home is not further than to", z.at(0, 24), 0);
     C.due("57 law", z.law(), 1);
+  }
+
+  /** Nothing that was asked ahead of a change is told behind it. */
+  private static void changes() {
+    NorthRoad x = Check.of(CHANGE);
+    long first = all(x);
+    x.tell(0, 3);
+    long second = all(x);
+    C.due("64 another day", second != first);
+    x.undo();
+    C.due("65 as it was", all(x), first);
+    x.bar(0, 0, 1);
+    C.due("63 another day", all(x) != first && all(x) != second);
+    x.anew();
+    C.due("66 as it was", all(x), first);
+    x.rate(1, 8);
+    long rated = all(x);
+    C.due("69 another mean", rated != first);
+    x.image(0);
+    C.due("4 another ROAD", Check.read(x, NORTH), 7);
+    C.due("4 another day", all(x) != rated);
+    x.back(0);
+    C.due("72 as it was", all(x), rated);
+    x.rate(1, 7);
+    C.due("69 as it was", all(x), first);
+  }
+
+  private static long all(NorthRoad x) {
+    long sum = x.loads(24) + 31L * x.mean(0) + 997L * x.best() + 31013L * x.waits(0) + 1000003L * x.aboard(0, 0);
+    return sum + 100000007L * x.ways() + 7000000001L * x.worth(0);
   }
 
   private static void rows() {
@@ -436,6 +486,15 @@ public final class PromiseTest {
     C.due("40 nobody", e.needed(), 0);
     C.due("41 none", e.pair(), -1);
     C.due("41 three who do as well", Check.of(ANY).pair(), -1);
+    String two = BASE + "car from 0 to 1 load 2;car from 2 to 3 load 3;rider at 0 says 1 home 9;rider at 2 says 3 home 9;";
+    NorthRoad each = Check.of(two);
+    C.due("40 each", each.needed(), 3);
+    C.due("39 all", each.cover(), 3);
+    C.due("41 less without one already", each.pair(), -1);
+    NorthRoad third = Check.of(two + "rider at 2 says 3 home 9;");
+    C.due("40 the first alone", third.needed(), 1);
+    C.due("41 the other two", third.pair(), 12);
+    C.due("39 the least of two sets", third.cover(), 3);
     C.due("39 none bars", Check.of(BASE).cover(), 0);
   }
 
@@ -502,6 +561,9 @@ public final class PromiseTest {
     C.due("48 who brings nothing leaves below 0", z.leave(0), 1);
     fill(z, 0, 3, Long.MAX_VALUE, Long.MAX_VALUE, Long.MIN_VALUE, 0);
     C.due("48 beyond a long", z.leave(0), 4);
+    fill(z, 0, 3, 4294967295L, 4294967295L, 4294967295L, 0);
+    C.due("48 beyond an int", z.leave(0), -1);
+    C.due("47 beyond an int", z.fair(0), 0);
     fill(z, 0, 3, 0, Long.MAX_VALUE, 0, Long.MIN_VALUE + 11);
     C.due("47 beyond a long", z.fair(0), 0);
     C.due("48 beyond a long", z.leave(0), 8);
@@ -541,6 +603,8 @@ public final class PromiseTest {
     C.due("54 odds above", x.odds(1, 2, 0), 1);
     C.due("54 odds below", x.odds(1, 2, 1), 6);
     C.due("55 LAWS by which it was so", x.laws(1), 14);
+    fill(x, 1, 1, 0, 0, 0);
+    C.due("49 STEP 0, PLACE 0", x.house(1, 2), 21);
     fill(x, 1, 1, 1, 5, 2);
     C.due("55 LAW 0", x.laws(1), 1);
     C.due("49 who has no home further", x.house(1, 2), 3);
@@ -609,6 +673,16 @@ public final class PromiseTest {
     NorthRoad z = Check.of("road places 4 law 1 seats 1 odds 0;car from 0 to 3 load 1;"
         + "rider at 0 says 1 home 1;rider at 0 says 1 home 1;");
     C.due("58 one of them", z.rests(0, 1), 4);
+    NorthRoad even = Check.of("road places 12 law 1 seats 1 odds 0;car from 0 to 11 load 1;car from 0 to 11 load 1;"
+        + "rider at 0 says 1 home 11;rider at 0 says 1 home 11;");
+    C.due("59 14 by 11 STEPS", even.gets(1, 0, 0, 0), 14);
+    C.due("58 both come", even.rests(0, 1), 1);
+    NorthRoad need = Check.of("road places 3 law 2 seats 3 odds 0;car from 0 to 2 load 1;rider at 0 says 1 home 1;"
+        + "rider at 0 says 1 home 1;rider at 0 says 1 home 0;");
+    C.due("58 both come, one home already", need.rests(0, 2), 1);
+    NorthRoad pact = Check.of("road places 4 law 2 seats 4 odds 0;car from 1 to 3 load 1;rider at 1 says 2 home 2;"
+        + "rider at 1 says 2 home 2;rider at 1 says 2 home 0;");
+    C.due("58 each needs the other: both come, or both stay away", pact.rests(0, 1), 9);
     NorthRoad late = Check.of("road places 12 law 1 seats 1 odds 0;car from 0 to 11 load 1;rider at 0 says 1 home 11;"
         + "rider at 0 says 0 home 0;");
     C.due("59 25 less home()", late.gets(0, 1, 0, 0), 14);
@@ -708,6 +782,9 @@ public final class PromiseTest {
     // from seed 1 the draws are those of 16838, 5758, 10113, 17515, 31051, 5627
     C.due("67 who does not come", x.drawn(1, 0), 4 + 16);
     C.due("67 loads", x.drawn(1, 1), 3);
+    C.due("67 just odds, he comes", Check.of(six.replace("odds 4", "odds 3")).drawn(1, 0), 16);
+    C.due("67 none below 0", Check.of(six.replace("odds 4", "odds 0")).drawn(1, 0), 0);
+    C.due("67 all below 10", Check.of(six.replace("odds 4", "odds 10")).drawn(1, 0), 63);
     C.due("67 loads with all", x.loads(24), 13);
     C.due("67 no such seed", x.drawn(-1, 0), -2);
     C.due("67 no such seed", x.drawn(2000000001, 0), -2);
@@ -810,6 +887,10 @@ public final class PromiseTest {
     C.due("73 the SLOT stays", x.fair(0), 1);
     C.due("73 in place of another", x.row(0, 0, 4), 0);
     C.due("73 all 0", x.leave(0), 2);
+    fill(x, 0, 0, 5, 5, 5, 5);
+    C.due("73 in place of another", x.row(0, 0, 4), 0);
+    x.write(0, 1, 10);
+    C.due("73 all others 0", x.fair(0), 1);
     int[] widths = {8, 16, 32, 64};
     for (int w = 0; w < 4; w++) {
       long high = w == 3 ? 0 : 1L << widths[w];
