@@ -61,6 +61,22 @@ final class Check {
     return x.road();
   }
 
+  /** A new row of a SLOT with these numbers. */
+  void fill(NorthRoad x, int slot, int width, long... numbers) {
+    due("73 row", x.row(slot, width, numbers.length), 0);
+    for (int i = 0; i < numbers.length; i++) {
+      due("74 write", x.write(slot, i, numbers[i]), 0);
+    }
+  }
+
+  /** Says of a call that ought to have changed nothing what it did change. */
+  void same(String call, String before, String after) {
+    asked++;
+    if (!before.equals(after)) {
+      wrong.add(call + " changed " + before + " to " + after);
+    }
+  }
+
   static NorthRoad of(String text) {
     NorthRoad x = new NorthRoad();
     read(x, text);
