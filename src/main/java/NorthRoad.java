@@ -1007,7 +1007,8 @@ public final class NorthRoad {
     private Rows tried() {
         if (!rowsFit) {
             day.take(now);
-            rows.tryAll(day, now);
+            rows.learn(day, now);
+            rows.tryAll(now);
             rowsFit = true;
         }
         return rows;
@@ -1601,10 +1602,10 @@ public final class NorthRoad {
             }
         }
 
-        /** The one CAR that may take a RIDER, or none may. */
-        void openOnly(int rider, int onlyCar) {
+        /** One CAR takes whomever it may, the others nobody. */
+        void openAlone(int only) {
             for (int car = 0; car < cars; car++) {
-                open[car] = with(open[car], 1 << rider, car == onlyCar);
+                open[car] = car == only ? ~0 : 0;
             }
         }
 
@@ -1840,83 +1841,84 @@ public final class NorthRoad {
 
     /**
      * All rows of RIDERS to CARS, the least first: none is less than CAR 0, RIDER 0 counts most.
-     * Who has one CAR alone gets in where he stands at STEP 0 or never: other CARS are as none to
-     * him, so that they are not tried but counted.
+     * By a row no RIDER ever changes CARS, so that CARS do not touch one another: each is tried by
+     * itself with each set of RIDERS, and rows are put together from what was found.
      */
     private static final class Rows {
         int best;
         int ways;
         final int[] first = new int[MOST_RIDERS];
         private final int[] choice = new int[MOST_RIDERS];
-        private final int[] useful = new int[MOST_RIDERS];
+        private final int[] given = new int[MOST_CARS];
+        private final long[] through = new long[MOST_CARS];
 
-        void tryAll(Day d, Road r) {
-            best = NONE;
-            ways = 0;
-            for (int rider = 0; rider < r.riders; rider++) {
-                choice[rider] = NONE;
-                useful[rider] = usefulTo(rider, r);
-                d.openOnly(rider, NONE);
-            }
-            int many = (int) power(r.cars + 1, r.riders);
-            boolean more = true;
-            for (int k = 0; k < many && more; k++) {
-                d.pass(allOf(r.riders));
-                weigh(r.loadOf(d.arrived), alike(r));
-                more = goOn(d, r);
+        /** The sets by which a CAR arrives, if it alone takes RIDERS: a bit for each of up to 64. */
+        void learn(Day d, Road r) {
+            for (int car = 0; car < r.cars; car++) {
+                through[car] = 0;
+                d.openAlone(car);
+                for (int set = 0; set < 1 << r.riders; set++) {
+                    d.pass(set);
+                    if ((d.arrived >> car & 1) == 1) {
+                        through[car] |= 1L << set;
+                    }
+                }
             }
         }
 
-        private static int usefulTo(int rider, Road r) {
-            int place = r.stand[rider];
-            int found = 0;
+        void tryAll(Road r) {
+            best = NONE;
+            ways = 0;
             for (int car = 0; car < r.cars; car++) {
-                if (r.says[rider] > place && r.from[car] <= place && place < r.to[car]) {
+                given[car] = 0;
+            }
+            for (int rider = 0; rider < r.riders; rider++) {
+                choice[rider] = NONE;
+            }
+            long many = power(r.cars + 1, r.riders);
+            for (long k = 0; k < many; k++) {
+                weigh(r.loadOf(arriving(r.cars)));
+                goOn(r);
+            }
+        }
+
+        private int arriving(int cars) {
+            int found = 0;
+            for (int car = 0; car < cars; car++) {
+                if ((through[car] >> given[car] & 1L) == 1L) {
                     found |= 1 << car;
                 }
             }
             return found;
         }
 
-        /** How many rows the one that is tried stands for. */
-        private int alike(Road r) {
-            int many = 1;
-            for (int rider = 0; rider < r.riders; rider++) {
-                if (choice[rider] == NONE) {
-                    many *= 1 + r.cars - Integer.bitCount(useful[rider]);
-                }
-            }
-            return many;
-        }
-
-        private void weigh(int loads, int many) {
+        private void weigh(int loads) {
             if (loads > best) {
                 best = loads;
                 ways = 0;
                 System.arraycopy(choice, 0, first, 0, MOST_RIDERS);
             }
             if (loads == best) {
-                ways += many;
+                ways++;
             }
         }
 
-        private boolean goOn(Day d, Road r) {
+        /** The next row: the last RIDER who has not the last CAR has the next one, those behind him none. */
+        private void goOn(Road r) {
             boolean carries = true;
             for (int rider = r.riders - 1; rider >= 0 && carries; rider--) {
-                choice[rider] = nextUseful(useful[rider], choice[rider], r.cars);
-                carries = choice[rider] == NONE;
-                d.openOnly(rider, choice[rider]);
+                int was = choice[rider];
+                carries = was == r.cars - 1;
+                choice[rider] = carries ? NONE : was + 1;
+                give(was, 1 << rider, false);
+                give(choice[rider], 1 << rider, true);
             }
-            return !carries;
         }
 
-        private static int nextUseful(int set, int behind, int cars) {
-            for (int car = behind + 1; car < cars; car++) {
-                if ((set >> car & 1) == 1) {
-                    return car;
-                }
+        private void give(int car, int bit, boolean on) {
+            if (car != NONE) {
+                given[car] = on ? given[car] | bit : given[car] & ~bit;
             }
-            return NONE;
         }
     }
 

@@ -21,6 +21,7 @@ public final class RulesTest {
     names();
     words(source.replaceAll("(?s)/\\*.*?\\*/", " ").replaceAll("//[^\n]*", " "));
     lengths(source);
+    promises();
     C.close();
   }
 
@@ -96,6 +97,19 @@ public final class RulesTest {
       C.due("the library's " + used.group(), allowed.contains(used.group()));
     }
     C.due("signs 1 to 127 alone", code.chars().allMatch(c -> c >= 1 && c <= 127));
+  }
+
+  /** The tests whose answers were worked out by hand label them by the number of the promise. */
+  private static void promises() throws Exception {
+    StringBuilder all = new StringBuilder();
+    for (java.io.File file : Path.of("src/test/java").toFile().listFiles()) {
+      if (file.getName().matches("(.*Edge|Promise)Test\\.java")) {
+        all.append(Files.readString(file.toPath()));
+      }
+    }
+    for (int promise = 1; promise <= 75; promise++) {
+      C.due("promise " + promise + " has a test", all.indexOf("\"" + promise + " ") >= 0);
+    }
   }
 
   /** Methods of the class stand 4 signs in, those of the classes inside it 8. */

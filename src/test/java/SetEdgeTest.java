@@ -178,6 +178,9 @@ public final class SetEdgeTest {
     C.due("41 less by 1", Check.of(road + WHO + WHO).pair(), 1);
     C.due("42 by 1", Check.of(road + WHO).worth(0), 1);
     C.due("39 what it is now, not 1 less", Check.of(road + WHO).cover(), 1);
+    String idle = "rider at 2 says 0 home 0;";
+    C.due("41 less by 1 without the lesser one already", Check.of(road + WHO + idle).pair(), -1);
+    C.due("41 less by 1 without the other one already", Check.of(road + idle + WHO).pair(), -1);
     NorthRoad none = Check.of(road.replace("load 1", "load 0") + WHO);
     C.due("40 a load of 0", none.needed(), 0);
     C.due("39 a load of 0", none.cover(), 0);
