@@ -369,6 +369,12 @@ public final class StepEdgeTest {
     C.due("27 who is home does not wait", Check.of(road + "rider at 2 says 9 home 2;").crowd(0), -1);
     C.due("21 all six", Check.of(road + at[2].repeat(6)).waiting(2, 0), 63);
     C.due("21 elsewhere", Check.of(road + at[2].repeat(6)).waiting(1, 0), 0);
+    for (int places = 2; places <= 12; places++) {
+      NorthRoad x = Check.of(road.replace("places 5", "places " + places) + "rider at " + (places - 1) + " says 0 home 99;");
+      C.due("21 the last PLACE", x.waiting(places - 1, 24), 1);
+      C.due("21 no such PLACE", x.waiting(places, 24), -2);
+      C.due("27 the last PLACE", x.crowd(24), places - 1);
+    }
   }
 
   private static void leads() {
